@@ -1,3 +1,4 @@
+import java.util.Arrays;
 import java.util.NoSuchElementException;
 
 /**
@@ -384,7 +385,7 @@ public final class WaterByLetters {
     // ---- orders of letters
 
     public int fewest() {
-        int served = thrift.seek(town, pump.thirst, yieldToday());
+        int served = thrift.seek(town, pump, yieldToday());
         told.tellAll(thrift.best, LETTERS);
         return town.count - served;
     }
@@ -1459,6 +1460,8 @@ public final class WaterByLetters {
     private static final class Orders {
         /** How much is lost if the second LETTER (column) is ahead of the first one (line). */
         private final int[] losses = new int[SQUARE];
+        /** The LETTERS (bits) by which each one loses anything. */
+        private final int[] losers = new int[LETTERS];
         private final int[] least = new int[SETS];
         /** The LETTERS (bits) that must be ahead of each one. */
         private final int[] demands = new int[LETTERS];
@@ -1490,15 +1493,15 @@ public final class WaterByLetters {
 
         /** What each LETTER ahead of another one costs a HOUSE: how many are ahead of it anyway. */
         private int lossesOf(Town town, int house) {
-            for (int i = 0; i < SQUARE; i++) {
-                losses[i] = 0;
-            }
+            Arrays.fill(losses, 0);
+            Arrays.fill(losers, 0);
             int anyway = 0;
             for (int other = 0; other < town.count; other++) {
                 int own = town.tellingLetter(house, other);
                 int their = town.tellingLetter(other, house);
                 if (own != NONE && their != NONE) {
                     losses[own * LETTERS + their]++;
+                    losers[own] |= 1 << their;
                 } else if (town.isAheadAnyway(other, house)) {
                     anyway++;
                 }
@@ -1509,8 +1512,9 @@ public final class WaterByLetters {
         /** What is lost if a LETTER comes next behind a set of LETTERS. */
         private int loss(int letter, int set) {
             int lost = 0;
-            for (int ahead = 0; ahead < LETTERS; ahead++) {
-                if (isIn(set, ahead)) {
+            int by = losers[letter] & set;
+            for (int ahead = 0; ahead < LETTERS && by >> ahead != 0; ahead++) {
+                if (isIn(by, ahead)) {
                     lost += losses[letter * LETTERS + ahead];
                 }
             }
@@ -1528,9 +1532,7 @@ public final class WaterByLetters {
 
         void demandNothing() {
             possible = true;
-            for (int letter = 0; letter < LETTERS; letter++) {
-                demands[letter] = 0;
-            }
+            Arrays.fill(demands, 0);
         }
 
         /** One HOUSE is ahead of the other one. */
@@ -1546,10 +1548,8 @@ public final class WaterByLetters {
 
         /** How many orders fit all demands. */
         int fitDemands() {
-            for (int set = 0; set < SETS; set++) {
-                beginnings[set] = 0;
-                endings[set] = 0;
-            }
+            Arrays.fill(beginnings, 0);
+            Arrays.fill(endings, 0);
             beginnings[0] = possible ? 1 : 0;
             endings[SETS - 1] = possible ? 1 : 0;
             for (int set = 0; set < SETS; set++) {
@@ -1610,7 +1610,8 @@ public final class WaterByLetters {
      */
     private static final class Thrift {
         final int[] best = new int[LETTERS];
-        private final int[] thirst = new int[MOST_HOUSES];
+        /** THIRST of each set of HOUSES. */
+        private final int[] sums = new int[SETS];
         private final int[] byThirst = new int[MOST_HOUSES];
         /** The LETTER of a HOUSE (line) by which it is told from another one (column), or NONE. */
         private final int[] telling = new int[SQUARE];
@@ -1626,10 +1627,12 @@ public final class WaterByLetters {
         private int bound;
 
         /** How many HOUSES have all of their THIRST at most; best is the least order for it. */
-        int seek(Town town, int[] thirsts, int cups) {
+        int seek(Town town, Pump pump, int cups) {
             count = town.count;
             cupsToday = cups;
-            System.arraycopy(thirsts, 0, thirst, 0, MOST_HOUSES);
+            for (int set = 0; set < 1 << count; set++) {
+                sums[set] = pump.thirstOfSet(set);
+            }
             sortByThirst();
             compareNames(town);
             most = -1;
@@ -1646,7 +1649,7 @@ public final class WaterByLetters {
             int size = 0;
             for (int cups = 1; cups <= MOST_THIRST; cups++) {
                 for (int house = 0; house < count && size < MOST_HOUSES; house++) {
-                    if (thirst[house] == cups) {
+                    if (sums[1 << house] == cups) {
                         byThirst[size] = house;
                         size++;
                     }
@@ -1738,10 +1741,7 @@ public final class WaterByLetters {
 
         private int hopeWithLast(int level, int house) {
             int surely = ahead[level * MOST_HOUSES + house] | 1 << house;
-            int room = cupsToday;
-            for (int other = 0; other < count; other++) {
-                room -= isIn(surely, other) ? thirst[other] : 0;
-            }
+            int room = cupsToday - sums[surely];
             if (room < 0) {
                 return 0;
             }
@@ -1749,9 +1749,13 @@ public final class WaterByLetters {
             int open = openFor(level, house);
             for (int i = 0; i < count; i++) {
                 int other = byThirst[i];
-                if (isIn(open, other) && thirst[other] <= room) {
-                    room -= thirst[other];
-                    many++;
+                int cups = sums[1 << other];
+                if (isIn(open, other) && cups <= room) {
+                    int needed = surely | ahead[level * MOST_HOUSES + other] | 1 << other;
+                    if (sums[needed] <= cupsToday) {
+                        room -= cups;
+                        many++;
+                    }
                 }
             }
             return many;
