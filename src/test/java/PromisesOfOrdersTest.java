@@ -55,6 +55,9 @@ public final class PromisesOfOrdersTest {
         w = Checks.town("ab1;ba1;aa1");
         CHECKS.due(22, "either or", w.likes(0), 1);
         order(22, "either or", w, 0, 1, 2, 3, 4, 5, 6, 7);
+        w = Checks.town("db1;bd1;dd1;c1;da1");
+        CHECKS.due(22, "d ahead of b, c; b ahead of d, a", w.likes(0), 1);
+        order(22, "d ahead of b, c; b ahead of d, a", w, 1, 0, 3, 2, 4, 5, 6, 7);
         w = Checks.town("a1;a1");
         CHECKS.due(22, "like names", w.likes(1), 1);
         w = Checks.town("ha1;hb1;g1;hc1");
