@@ -72,7 +72,8 @@ public final class WaterByLetters {
     private final Orders orders = new Orders();
     private final Thrift thrift = new Thrift();
     private final Matching matching = new Matching();
-    private final int[] letters = new int[LETTERS];
+    /** A row that is made ready ahead of being told. */
+    private final int[] draft = new int[LETTERS];
     private int drawn;
 
     public WaterByLetters() {
@@ -385,7 +386,7 @@ public final class WaterByLetters {
     // ---- orders of letters
 
     public int fewest() {
-        int served = thrift.seek(town, pump, yieldToday());
+        int served = thrift.seek(town, pump, orders, yieldToday());
         told.tellAll(thrift.best, LETTERS);
         return town.count - served;
     }
@@ -394,8 +395,8 @@ public final class WaterByLetters {
         if (!town.has(house)) {
             return NONE;
         }
-        int place = orders.leastPlace(town, house, letters);
-        told.tellAll(letters, LETTERS);
+        int place = orders.leastPlace(town, house, draft);
+        told.tellAll(draft, LETTERS);
         return place;
     }
 
@@ -445,9 +446,9 @@ public final class WaterByLetters {
     private int readOtherOrder() {
         int fault = text.faultInOrder();
         if (fault == FINE) {
-            text.copyOrder(letters);
+            text.copyOrder(draft);
             book.write(town, town.order);
-            otherBook.write(town, letters);
+            otherBook.write(town, draft);
         }
         text.length = 0;
         return fault;
@@ -570,17 +571,17 @@ public final class WaterByLetters {
         }
         int left = v;
         for (int house = 0; house < town.count; house++) {
-            letters[house] = v * pump.thirst[house] / all;
-            left -= letters[house];
+            draft[house] = v * pump.thirst[house] / all;
+            left -= draft[house];
         }
         int given = 0;
         for (int i = 0; i < left; i++) {
             int next = greatestRest(v, all, given);
-            letters[next] += 1;
+            draft[next] += 1;
             given |= 1 << next;
         }
-        told.tellAll(letters, town.count);
-        return letters[0];
+        told.tellAll(draft, town.count);
+        return draft[0];
     }
 
     /** The HOUSE with the greatest rest, of those that have no cup of the rest yet. */
@@ -617,12 +618,8 @@ public final class WaterByLetters {
 
     public int fits() {
         int all = fitAll();
-        if (all == 0) {
-            told.size = 0;
-        } else {
-            orders.leastFit(letters);
-            told.tellAll(letters, LETTERS);
-        }
+        boolean any = orders.leastFit(draft);
+        told.tellAll(draft, any ? LETTERS : 0);
         return all;
     }
 
@@ -1535,12 +1532,17 @@ public final class WaterByLetters {
             Arrays.fill(demands, 0);
         }
 
+        void demandAhead(int letter, int behind) {
+            if (behind >= 0 && behind < LETTERS) {
+                demands[behind] |= 1 << letter;
+            }
+        }
+
         /** One HOUSE is ahead of the other one. */
         void demand(Town town, int one, int other) {
             int ahead = town.tellingLetter(one, other);
-            int behind = town.tellingLetter(other, one);
-            if (ahead != NONE && behind != NONE) {
-                demands[behind] |= 1 << ahead;
+            if (ahead != NONE) {
+                demandAhead(ahead, town.tellingLetter(other, one));
             } else if (!town.isAheadAnyway(one, other)) {
                 possible = false;
             }
@@ -1573,23 +1575,27 @@ public final class WaterByLetters {
             return !isIn(set, letter) && (demands[letter] & ~set) == 0;
         }
 
-        /** The least order that fits all demands, if one does. */
-        void leastFit(int[] into) {
+        /** The least order that fits all demands; false if none does. */
+        boolean leastFit(int[] into) {
             int set = 0;
             for (int i = 0; i < LETTERS; i++) {
-                int letter = leastFitNext(set);
+                int letter = leastFollowing(set);
+                if (letter == NONE) {
+                    return false;
+                }
                 into[i] = letter;
                 set |= 1 << letter;
             }
+            return possible;
         }
 
-        private int leastFitNext(int set) {
+        private int leastFollowing(int set) {
             for (int letter = 0; letter < LETTERS; letter++) {
-                if (canFollow(set, letter) && endings[set | 1 << letter] > 0) {
+                if (canFollow(set, letter)) {
                     return letter;
                 }
             }
-            return 0;
+            return NONE;
         }
 
         /** How many of the orders that fit have one LETTER ahead of the other: it comes while that one has not. */
@@ -1605,193 +1611,89 @@ public final class WaterByLetters {
     }
 
     /**
-     * Seeks the order of LETTERS by which the most HOUSES have all of their THIRST: LETTER by LETTER
-     * from the first on, least rows first, leaving each beginning that can't lead to more than was found.
+     * Seeks the order of LETTERS by which the most HOUSES have all of their THIRST. They are the first ones
+     * of THE BOOK then, so each set of HOUSES for which there are cups is tried as the first ones.
      */
     private static final class Thrift {
         final int[] best = new int[LETTERS];
+        private final int[] tried = new int[LETTERS];
         /** THIRST of each set of HOUSES. */
         private final int[] sums = new int[SETS];
-        private final int[] byThirst = new int[MOST_HOUSES];
         /** The LETTER of a HOUSE (line) by which it is told from another one (column), or NONE. */
         private final int[] telling = new int[SQUARE];
-        /** The LETTERS (bits) that tell any two HOUSES apart; the others can stand anywhere. */
-        private int tellingBits;
-        // The HOUSES (bits) that are surely ahead of each one, and behind it, when so many LETTERS are set.
-        private final int[] ahead = new int[(LETTERS + 1) * MOST_HOUSES];
-        private final int[] behind = new int[(LETTERS + 1) * MOST_HOUSES];
-        private final int[] chosen = new int[LETTERS];
+        /** The HOUSES (bits) that are ahead of each one by any order. */
+        private final int[] aheadAnyway = new int[MOST_HOUSES];
         private int count;
-        private int cupsToday;
-        private int most;
-        private int bound;
 
         /** How many HOUSES have all of their THIRST at most; best is the least order for it. */
-        int seek(Town town, Pump pump, int cups) {
+        int seek(Town town, Pump pump, Orders orders, int cups) {
             count = town.count;
-            cupsToday = cups;
-            for (int set = 0; set < 1 << count; set++) {
-                sums[set] = pump.thirstOfSet(set);
-            }
-            sortByThirst();
+            addUp(pump);
             compareNames(town);
-            most = -1;
-            bound = hope(0);
-            if (isSettled(0)) {
-                keepBest(0, 0, bound);
-            } else {
-                setNext(0, 0);
+            int most = -1;
+            for (int set = 0; set < 1 << count; set++) {
+                int many = Integer.bitCount(set);
+                if (many >= most && sums[set] <= cups && canBeFirst(set, orders)) {
+                    if (many > most || isLess(tried, best)) {
+                        System.arraycopy(tried, 0, best, 0, LETTERS);
+                    }
+                    most = many;
+                }
             }
             return most;
         }
 
-        private void sortByThirst() {
-            int size = 0;
-            for (int cups = 1; cups <= MOST_THIRST; cups++) {
-                for (int house = 0; house < count && size < MOST_HOUSES; house++) {
-                    if (sums[1 << house] == cups) {
-                        byThirst[size] = house;
-                        size++;
-                    }
+        private void addUp(Pump pump) {
+            for (int house = 0; house < count; house++) {
+                for (int set = 0; set < 1 << house; set++) {
+                    sums[set | 1 << house] = sums[set] + pump.thirst[house];
                 }
             }
         }
 
         private void compareNames(Town town) {
-            tellingBits = 0;
             for (int one = 0; one < count; one++) {
-                ahead[one] = 0;
-                behind[one] = 0;
+                aheadAnyway[one] = 0;
                 for (int other = 0; other < count; other++) {
                     int letter = town.tellingLetter(one, other);
                     telling[one * MOST_HOUSES + other] = letter;
-                    if (letter != NONE) {
-                        tellingBits |= 1 << letter;
-                    } else if (one != other && town.isAheadAnyway(one, other)) {
-                        behind[one] |= 1 << other;
-                    } else if (one != other) {
-                        ahead[one] |= 1 << other;
+                    if (letter == NONE && town.isAheadAnyway(other, one)) {
+                        aheadAnyway[one] |= 1 << other;
                     }
                 }
             }
         }
 
-        /** Sets the next LETTER behind a set of them, so many; as deep as there are LETTERS. */
-        private void setNext(int level, int set) {
-            for (int letter = 0; letter < LETTERS && most < bound; letter++) {
-                if (!isIn(tellingBits, letter) || isIn(set, letter)) {
-                    continue;
-                }
-                int longer = set | 1 << letter;
-                chosen[level] = letter;
-                settle(level, set, letter);
-                int hoped = hope(level + 1);
-                if (hoped > most) {
-                    if (level + 1 < LETTERS && !isSettled(level + 1)) {
-                        setNext(level + 1, longer);
-                    } else {
-                        keepBest(level + 1, longer, hoped);
-                    }
-                }
-            }
-        }
-
-        /** A LETTER behind a set is ahead of all others: what that says of the HOUSES, one level on. */
-        private void settle(int level, int set, int letter) {
-            int from = level * MOST_HOUSES;
-            int to = from + MOST_HOUSES;
-            System.arraycopy(ahead, from, ahead, to, MOST_HOUSES);
-            System.arraycopy(behind, from, behind, to, MOST_HOUSES);
+        /** Whether a set of HOUSES is ahead of all others by any order: the least such order is tried then. */
+        private boolean canBeFirst(int set, Orders orders) {
+            orders.demandNothing();
             for (int one = 0; one < count; one++) {
-                for (int other = 0; other < count; other++) {
-                    if (telling[one * MOST_HOUSES + other] == letter) {
-                        int their = telling[other * MOST_HOUSES + one];
-                        if (their != NONE && !isIn(set, their)) {
-                            behind[to + one] |= 1 << other;
-                            ahead[to + other] |= 1 << one;
-                        }
+                if (isIn(set, one)) {
+                    if ((aheadAnyway[one] & ~set) != 0) {
+                        return false;
                     }
+                    demandBehind(one, set, orders);
+                }
+            }
+            return orders.leastFit(tried);
+        }
+
+        private void demandBehind(int one, int set, Orders orders) {
+            for (int other = 0; other < count; other++) {
+                int own = telling[one * MOST_HOUSES + other];
+                if (own != NONE && !isIn(set, other)) {
+                    orders.demandAhead(own, telling[other * MOST_HOUSES + one]);
                 }
             }
         }
 
-        private boolean isSettled(int level) {
-            for (int house = 0; house < count; house++) {
-                if (openFor(level, house) != 0) {
-                    return false;
-                }
-            }
-            return true;
-        }
-
-        /** The HOUSES (bits) that can still be ahead of one or behind it. */
-        private int openFor(int level, int house) {
-            int i = level * MOST_HOUSES + house;
-            return (1 << count) - 1 & ~(ahead[i] | behind[i] | 1 << house);
-        }
-
-        /** How many can have all of their THIRST at most, whichever HOUSE is the last of them; exact when settled. */
-        private int hope(int level) {
-            int hoped = 0;
-            for (int house = 0; house < count; house++) {
-                hoped = Math.max(hoped, hopeWithLast(level, house));
-            }
-            return hoped;
-        }
-
-        private int hopeWithLast(int level, int house) {
-            int surely = ahead[level * MOST_HOUSES + house] | 1 << house;
-            int room = cupsToday - sums[surely];
-            if (room < 0) {
-                return 0;
-            }
-            int many = Integer.bitCount(surely);
-            int open = openFor(level, house);
-            for (int i = 0; i < count; i++) {
-                int other = byThirst[i];
-                int cups = sums[1 << other];
-                if (isIn(open, other) && cups <= room) {
-                    int needed = surely | ahead[level * MOST_HOUSES + other] | 1 << other;
-                    if (sums[needed] <= cupsToday) {
-                        room -= cups;
-                        many++;
-                    }
-                }
-            }
-            return many;
-        }
-
-        /** The least order that begins so, the LETTERS that tell nobody apart put in where the row is the least. */
-        private void keepBest(int level, int set, int served) {
-            most = served;
-            int size = level;
-            for (int letter = 0; letter < LETTERS && size < LETTERS; letter++) {
-                if (isIn(tellingBits, letter) && !isIn(set, letter)) {
-                    chosen[size] = letter;
-                    size++;
-                }
-            }
-            int next = 0;
-            int idle = nextIdle(0);
+        private static boolean isLess(int[] one, int[] other) {
             for (int i = 0; i < LETTERS; i++) {
-                if (next < size && chosen[next] < idle) {
-                    best[i] = chosen[next];
-                    next++;
-                } else {
-                    best[i] = idle;
-                    idle = nextIdle(idle + 1);
+                if (one[i] != other[i]) {
+                    return one[i] < other[i];
                 }
             }
-        }
-
-        /** The next LETTER that tells nobody apart; LETTERS, if there is none. */
-        private int nextIdle(int from) {
-            for (int letter = from; letter < LETTERS; letter++) {
-                if (!isIn(tellingBits, letter)) {
-                    return letter;
-                }
-            }
-            return LETTERS;
+            return false;
         }
     }
 
