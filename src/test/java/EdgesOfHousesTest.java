@@ -453,6 +453,15 @@ public final class EdgesOfHousesTest {
         yields("(3>4)+(5-1)*2", 8);
     }
 
+    static void p06_yieldsTheSameWhenAskedAgain() {
+        for (String rule : new String[] {"-5+9", "(-5+9)", "8/2", "(1<2)*4", "-(-4)"}) {
+            WaterByLetters w = Checks.townWithRule("", rule);
+            for (int i = 0; i < 3; i++) {
+                Edges.is(rule, w.count(2), 4);
+            }
+        }
+    }
+
     static void p06_anotherRuleForgetsTheOneBefore() {
         WaterByLetters w = Checks.townWithRule("", "3<(2=2)");
         Edges.is("3<(2=2)", w.count(2), 0);
